@@ -79,7 +79,7 @@ public final class MilkRound {
     // ---- houses
 
     public int about(int house, int what) {
-        if (!isHouse(house)) {
+        if (!street.has(house)) {
             return UNKNOWN;
         }
         if (what < 0 || what > LAST_OF_HOUSE) {
@@ -89,7 +89,7 @@ public final class MilkRound {
     }
 
     public int as(int house, int kind) {
-        if (!isHouse(house)) {
+        if (!street.has(house)) {
             return UNKNOWN;
         }
         if (kind < 0 || kind > LAST_KIND) {
@@ -99,7 +99,7 @@ public final class MilkRound {
     }
 
     public int letters(int house, int length) {
-        if (!isHouse(house)) {
+        if (!street.has(house)) {
             return UNKNOWN;
         }
         if (length < 0 || length > MOST_LENGTH) {
@@ -111,7 +111,7 @@ public final class MilkRound {
     }
 
     public int leave(int house, boolean out) {
-        if (!isHouse(house)) {
+        if (!street.has(house)) {
             return UNKNOWN;
         }
         int was = bitOf(now.leftOut, house);
@@ -120,7 +120,7 @@ public final class MilkRound {
     }
 
     public int swap(int a, int b) {
-        if (!isHouse(a) || !isHouse(b)) {
+        if (!street.has(a) || !street.has(b)) {
             return UNKNOWN;
         }
         int placeOfFirst = now.placeOf(a);
@@ -166,7 +166,7 @@ public final class MilkRound {
     // ---- what is known
 
     public int known(int house, int minutes) {
-        if (!isHouse(house)) {
+        if (!street.has(house)) {
             return UNKNOWN;
         }
         if (minutes < 1 || minutes > MOST_MINUTES) {
@@ -268,10 +268,6 @@ public final class MilkRound {
 
     private boolean hasNoRound() {
         return street.size == 0;
-    }
-
-    private boolean isHouse(int house) {
-        return house >= 0 && house < street.size;
     }
 
     private void walkAsItIs() {
@@ -391,7 +387,8 @@ public final class MilkRound {
     private boolean canHaveBeen(int set) {
         walk.go(now.lengths, now.order, set);
         for (int i = 0; i < now.knownSize; i++) {
-            if (walk.came[now.knownHouses[i]] != now.knownMinutes[i]) {
+            int house = now.knownHouses[i];
+            if (!street.has(house) || walk.came[house] != now.knownMinutes[i]) {
                 return false;
             }
         }
@@ -556,8 +553,8 @@ public final class MilkRound {
             return size / 3;
         }
 
-        int kindAt(int house) {
-            return KIND_SIGNS.indexOf(signs[3 * house]);
+        char kindSignAt(int house) {
+            return signs[3 * house];
         }
 
         int lengthAt(int house) {
@@ -584,8 +581,12 @@ public final class MilkRound {
 
     /** What a round says once and for all: which houses stand side by side, and how long milk keeps. */
     private static final class Street {
-        final House[] kinds = {new House(), new Sea(), new Alone(), new Bad(), new War()};
-        final House[] houses = {kinds[0], kinds[0], kinds[0], kinds[0], kinds[0], kinds[0]};
+        final House plain = new House();
+        final House sea = new Sea();
+        final House alone = new Alone();
+        final House bad = new Bad();
+        final House war = new War();
+        final House[] houses = {plain, plain, plain, plain, plain, plain};
         int size = 0;
         int keep = 0;
 
@@ -593,8 +594,23 @@ public final class MilkRound {
             size = page.houses();
             keep = page.keepAtEnd();
             for (int house = 0; house < size; house++) {
-                houses[house] = kinds[page.kindAt(house)];
+                houses[house] = houseOf(page.kindSignAt(house));
             }
+        }
+
+        /** Houses of a kind are one object, as what differs between them is held in the course. */
+        private House houseOf(char sign) {
+            switch (sign) {
+                case 's': return sea;
+                case 'a': return alone;
+                case 'b': return bad;
+                case 'w': return war;
+                default: return plain;
+            }
+        }
+
+        boolean has(int house) {
+            return house >= 0 && house < size;
         }
 
         int reading(int house, int length, int leftOut) {
@@ -674,8 +690,10 @@ public final class MilkRound {
             int minutes = 0;
             for (int place = 0; place < street.size; place++) {
                 int house = order[place];
-                minutes += 1 + street.reading(house, lengths[house], leftOut);
-                came[house] = minutes;
+                if (street.has(house)) {
+                    minutes += 1 + street.reading(house, lengths[house], leftOut);
+                    came[house] = minutes;
+                }
             }
             minutesOfAll = minutes;
         }
@@ -689,7 +707,7 @@ public final class MilkRound {
         }
 
         private boolean isAhead(int beside, int house) {
-            return beside >= 0 && beside < street.size && came[house] - came[beside] >= NEWS_TAKES;
+            return street.has(beside) && came[house] - came[beside] >= NEWS_TAKES;
         }
 
         int sourHouses() {
@@ -734,8 +752,10 @@ public final class MilkRound {
         void add(int[] came, int size) {
             for (int house = 0; house < size; house++) {
                 int minutes = came[house];
-                left[house][minutes]++;
-                worst[house] = Math.max(worst[house], left[house][minutes]);
+                if (minutes >= 0 && minutes <= MOST_MINUTES) {
+                    left[house][minutes]++;
+                    worst[house] = Math.max(worst[house], left[house][minutes]);
+                }
             }
         }
 
