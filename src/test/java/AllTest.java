@@ -21,7 +21,8 @@ public final class AllTest {
         x.known(1, 6);
         check.due("image()", x.image(), 1);
         long before = x.digest();
-        x.day();
+        x.letters(1, 9);
+        check.due("day() behind image()", x.day(), 3);
         x.letters(0, 5);
         x.leave(2, false);
         x.leave(1, true);
@@ -32,6 +33,8 @@ public final class AllTest {
         check.due("restore()", x.restore(), 1);
         check.due("digest() is as it was", x.digest(), before);
         check.due("days", x.count(2), 1);
+        check.due("how often sour", x.count(3), 2);
+        check.due("how often heard", x.count(4), 1);
         check.due("letters", x.about(0, 1), 4);
         check.due("left out", x.about(2, 2), 1);
         check.due("not left out", x.about(1, 2), 0);

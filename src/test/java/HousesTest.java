@@ -57,6 +57,7 @@ public final class HousesTest {
         turned.swap(0, 1);
         row(turned, 5, 7, 1);
         row(turned, 7, 1, 0);
+        check.due("count(6), the first one hears it", turned.count(6), 1);
         row(Check.round("h0,h4,h4;9"), 7, 0, 0, 0);
         row(Check.round("h0,a9;9"), 7, 0, 0);
         row(Check.round("a0,h5;9"), 7, 0, 1);
@@ -137,6 +138,10 @@ public final class HousesTest {
         row(x, 4, 1, 2, 0);
         check.due("swap(1, 1)", x.swap(1, 1), 2);
         row(x, 4, 1, 2, 0);
+        MilkRound six = Check.round("h0,h0,h0,h0,h0,h0;9");
+        check.due("swap(4, 5)", six.swap(4, 5), 4);
+        check.due("swap(4, 0)", six.swap(4, 0), 5);
+        row(six, 4, 5, 1, 2, 3, 0, 4);
         check.due("swap(0, 3)", x.swap(0, 3), MilkRound.UNKNOWN);
         check.due("swap(3, 0)", x.swap(3, 0), MilkRound.UNKNOWN);
         check.due("swap(-1, -1)", x.swap(-1, -1), MilkRound.UNKNOWN);

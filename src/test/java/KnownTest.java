@@ -84,6 +84,14 @@ public final class KnownTest {
         check.due("ask()", x.ask(), 1);
         x.swap(0, 1);
         check.due("ask() in another order", x.ask(), 0);
+        check.due("ask() once more", x.ask(), 0);
+        x.letters(1, 1);
+        check.due("ask() with other letters", x.ask(), 0);
+        x.letters(0, 1);
+        check.due("ask() with shorter ones", x.ask(), 0);
+        x.swap(0, 1);
+        x.letters(1, 4);
+        check.due("ask() as at first", x.ask(), 1);
         check.due("ask() of like ones", Check.round("h0,h0,h0;9").ask(), 0);
         MilkRound one = Check.round("h2,h4;9");
         one.known(1, 6);
