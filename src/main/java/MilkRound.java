@@ -707,7 +707,7 @@ public final class MilkRound {
         }
 
         private boolean isAhead(int beside, int house) {
-            return street.has(beside) && came[house] - came[beside] >= NEWS_TAKES;
+            return beside >= 0 && beside < street.size && came[house] - came[beside] >= NEWS_TAKES;
         }
 
         int sourHouses() {

@@ -98,6 +98,9 @@ public final class KnownTest {
         check.due("ask() of one set", one.ask(), 0);
         one.known(0, 1);
         check.due("ask() of no set", one.ask(), MilkRound.NONE);
+        MilkRound nowhere = Check.round("h2,h4;9");
+        nowhere.known(1, 8);
+        check.due("ask() of the empty set alone", nowhere.ask(), 0);
         // house 0 tells nothing, house 1 halves, house 2 tells 7, 6, 6, 5 twice each: both leave four at worst
         check.due("ask() of like worsts", Check.round("h0,h2,h2;9").ask(), 1);
         check.due("ask(), no round", new MilkRound().ask(), MilkRound.STATE);
