@@ -5,6 +5,7 @@ import java.lang.reflect.Method;
 import java.lang.reflect.Modifier;
 import java.nio.file.Files;
 import java.nio.file.Path;
+import java.util.ArrayList;
 import java.util.Arrays;
 import java.util.List;
 import java.util.Set;
@@ -29,6 +30,7 @@ public final class FaceTest {
         theCalls();
         theConstants();
         theClassesInside();
+        theSizes();
         theSource();
         check.end();
     }
@@ -84,6 +86,18 @@ public final class FaceTest {
         for (Method method : MilkRound.class.getDeclaredMethods()) {
             check.due(method + " is private and bears a name of the face",
                 Modifier.isPrivate(method.getModifiers()) && faceNames.contains(method.getName()) ? 1 : 0, 0);
+        }
+    }
+
+    private static void theSizes() {
+        List<Class<?>> all = new ArrayList<>(List.of(MilkRound.class.getDeclaredClasses()));
+        all.add(MilkRound.class);
+        for (Class<?> each : all) {
+            long fields = Arrays.stream(each.getDeclaredFields()).filter(field -> !Modifier.isStatic(field.getModifiers())).count();
+            check.due(each + " has at most twenty fields", fields <= 20 ? 1 : 0, 1);
+            for (Method method : each.getDeclaredMethods()) {
+                check.due(method + " has at most seven parameters", method.getParameterCount() <= 7 ? 1 : 0, 1);
+            }
         }
     }
 

@@ -1,49 +1,43 @@
 import java.util.Random;
 
-/** Random runs of calls on MilkRound beside the model; a run stays below the 512 calls that are promised. */
+/** Random runs beside the model, each of all the 512 calls that are promised, none more. */
 public final class ModelTest {
     private static final Check check = new Check();
     private static final int RUNS = 300;
-    private static final int CALLS = 480;
+    private static final int LONGEST_TEXT = 19;
 
-    private final String run;
     private final Random random;
-    private final MilkRound x = new MilkRound();
-    private final Model m = new Model();
+    private final Pair pair;
 
     private ModelTest(int seed) {
-        run = "run " + seed + ": ";
         random = new Random(seed);
+        pair = new Pair(check, "run " + seed);
     }
 
     public static void main(String[] args) {
         for (int seed = 0; seed < RUNS; seed++) {
-            new ModelTest(seed).manyCalls();
+            new ModelTest(seed).allCalls();
         }
+        check.due("calls of all runs", check.asked(), (long) RUNS * Pair.MOST_CALLS);
         check.end();
     }
 
-    private void manyCalls() {
-        int calls = 0;
-        while (calls < CALLS) {
-            calls += calls == 0 || random.nextInt(90) == 0 ? readAnother() : 1;
-            oneCall(random.nextInt(22));
+    private void allCalls() {
+        readAnother();
+        while (pair.callsLeft() > 1) {
+            if (random.nextInt(90) == 0 && pair.callsLeft() > LONGEST_TEXT + 3) {
+                readAnother();
+            } else {
+                oneCall(random.nextInt(22));
+            }
         }
-        check.due(run + "digest()", x.digest(), m.digest());
+        pair.digest();
     }
 
-    private int readAnother() {
-        String text = randomText();
-        for (char sign : text.toCharArray()) {
-            writeSign(sign);
-        }
-        check.due(run + "fault() of " + m.page, x.fault(), m.fault());
-        check.due(run + "round() of " + m.page, x.round(), m.round());
-        return text.length() + 2;
-    }
-
-    private void writeSign(int code) {
-        check.due(run + "letter(" + code + ")", x.letter(code), m.letter(code));
+    private void readAnother() {
+        pair.write(randomText());
+        pair.fault();
+        pair.round();
     }
 
     private void oneCall(int which) {
@@ -51,47 +45,42 @@ public final class ModelTest {
         int other = random.nextInt(8) - 1;
         int what = random.nextInt(14) - 1;
         int few = random.nextInt(5) - 1;
-        boolean out = random.nextBoolean();
         switch (which) {
-            case 0: case 1: check.due(run + "about(" + house + ", " + what + ")", x.about(house, what), m.about(house, what)); break;
-            case 2: check.due(run + "as(" + house + ", " + other + ")", x.as(house, other), m.as(house, other)); break;
-            case 3: case 4: case 5: check.due(run + "letters(" + house + ", " + what + ")", x.letters(house, what), m.letters(house, what)); break;
-            case 6: case 7: check.due(run + "leave(" + house + ", " + out + ")", x.leave(house, out), m.leave(house, out)); break;
-            case 8: case 9: check.due(run + "swap(" + house + ", " + other + ")", x.swap(house, other), m.swap(house, other)); break;
-            case 10: check.due(run + "day()", x.day(), m.day()); break;
-            case 11: searchBest(random.nextInt(3) == 0 ? 0 : random.nextInt(10) + 8); break;
-            case 12: case 13: tell(house); break;
-            case 14: check.due(run + "sets(" + few + ")", x.sets(few), m.sets(few)); break;
-            case 15: check.due(run + "ask()", x.ask(), m.ask()); break;
-            case 16: tryWeeks(random.nextInt(64) - 1, random.nextInt(8) == 0 ? -1 : random.nextInt() & Integer.MAX_VALUE, few); break;
-            case 17: check.due(run + "image()", x.image(), m.image()); break;
-            case 18: check.due(run + "restore()", x.restore(), m.restore()); break;
-            case 19: check.due(run + "count(" + what + ")", x.count(what), m.count(what)); break;
-            case 20: check.due(run + "digest()", x.digest(), m.digest()); break;
+            case 0: case 1: pair.about(house, what); break;
+            case 2: pair.as(house, other); break;
+            case 3: case 4: case 5: pair.letters(house, what); break;
+            case 6: case 7: pair.leave(house, random.nextBoolean()); break;
+            case 8: case 9: pair.swap(house, other); break;
+            case 10: pair.day(); break;
+            case 11: pair.best(random.nextInt(3) == 0 ? 0 : random.nextInt(10) + 8); break;
+            case 12: case 13: pair.known(house, randomMinutes(house)); break;
+            case 14: pair.sets(few); break;
+            case 15: pair.ask(); break;
+            case 16: pair.weeks(random.nextInt(64) - 1, randomSeed(), few); break;
+            case 17: pair.image(); break;
+            case 18: pair.restore(); break;
+            case 19: pair.count(what); break;
+            case 20: pair.digest(); break;
             default: oneRarely(random.nextInt(4)); break;
         }
     }
 
     private void oneRarely(int which) {
         switch (which) {
-            case 0: check.due(run + "forget()", x.forget(), m.forget()); break;
-            case 1: check.due(run + "blank()", x.blank(), m.blank()); break;
-            case 2: check.due(run + "fault()", x.fault(), m.fault()); break;
-            default: writeSign(28 + random.nextInt(104)); break;
+            case 0: pair.forget(); break;
+            case 1: pair.blank(); break;
+            case 2: pair.fault(); break;
+            default: pair.letter(28 + random.nextInt(104)); break;
         }
     }
 
-    private void searchBest(int what) {
-        check.due(run + "best(" + what + ")", x.best(what), m.best(what));
+    /** Mostly minutes that can be, so that some sets are left. */
+    private int randomMinutes(int house) {
+        return random.nextInt(8) == 0 ? random.nextInt(155) - 1 : pair.model.likelyMinutes(house, random.nextInt(64));
     }
 
-    private void tell(int house) {
-        int minutes = random.nextInt(8) == 0 ? random.nextInt(155) - 1 : m.likelyMinutes(house, random.nextInt(64));
-        check.due(run + "known(" + house + ", " + minutes + ")", x.known(house, minutes), m.known(house, minutes));
-    }
-
-    private void tryWeeks(int days, int seed, int what) {
-        check.due(run + "weeks(" + days + ", " + seed + ", " + what + ")", x.weeks(days, seed, what), m.weeks(days, seed, what));
+    private int randomSeed() {
+        return random.nextInt(8) == 0 ? -1 : random.nextInt() & Integer.MAX_VALUE;
     }
 
     private String randomText() {

@@ -30,6 +30,10 @@ final class Check {
         States.due(this, call + " changes nothing: ", touched, made.get());
     }
 
+    long asked() {
+        return asked;
+    }
+
     void end() {
         endSentence();
         System.out.println(asked + " calls, " + wrong + " not as due");
